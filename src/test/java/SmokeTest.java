@@ -1,0 +1,1 @@
+final class SmokeTest { public static void main(String[] a) { new GapStations(); } }
