@@ -1,1 +1,0 @@
-final class SmokeTest { public static void main(String[] a) { new GapStations(); } }
