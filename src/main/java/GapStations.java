@@ -26,7 +26,7 @@ public final class GapStations {
     private boolean isKept = false;
     // What is only asked ("were it so") is tried out here, so that the stations stay as they are.
     private final Plane trial = new Plane();
-    private final Search search = new Search();
+    private final Widths widths = new Widths();
     private final Text text = new Text();
     private final Tape[] tapes = new Tape[TAPES];
 
@@ -188,11 +188,11 @@ public final class GapStations {
             case 2:
                 return plane.clashes();
             case 3:
-                return plane.bound();
+                return widths.bound(plane);
             case 4:
-                return search.leastWidth(plane);
+                return widths.leastWidth(plane);
             case 5:
-                return search.leastWidth(plane) == plane.bound() ? 1 : 0;
+                return widths.leastWidth(plane) == widths.bound(plane) ? 1 : 0;
             case 6:
                 return plane.tuned();
             case 7:
@@ -205,7 +205,7 @@ public final class GapStations {
     }
 
     public int clique(int gap) {
-        return isGap(gap) ? now.plane.largestClique(gap) : BAD;
+        return isGap(gap) ? widths.largestClique(now.plane, gap) : BAD;
     }
 
     public int sorted(int k) {
@@ -529,7 +529,6 @@ public final class GapStations {
         private final int[] xs = new int[STATIONS];
         private final int[] ys = new int[STATIONS];
         private final int[] channels = new int[STATIONS];
-        private final boolean[] fixed = new boolean[STATIONS];
         private final int[] nears = new int[RULES];
         private final int[] gaps = new int[RULES];
         // By two stations; like the neighbours of each, kept in step with places and rules. A station
@@ -538,8 +537,7 @@ public final class GapStations {
         private final int[] neighbours = new int[STATIONS];
         // While all are assigned: the channels that are allowed for each, as bits.
         private final int[] open = new int[STATIONS];
-        // While a clique is sought: who may be in one with each, as bits.
-        private final int[] friends = new int[STATIONS];
+        private int fixed = 0;
         private int size = 0;
 
         Plane() {
@@ -552,11 +550,11 @@ public final class GapStations {
             System.arraycopy(other.xs, 0, xs, 0, STATIONS);
             System.arraycopy(other.ys, 0, ys, 0, STATIONS);
             System.arraycopy(other.channels, 0, channels, 0, STATIONS);
-            System.arraycopy(other.fixed, 0, fixed, 0, STATIONS);
             System.arraycopy(other.nears, 0, nears, 0, RULES);
             System.arraycopy(other.gaps, 0, gaps, 0, RULES);
             System.arraycopy(other.aparts, 0, aparts, 0, STATIONS * STATIONS);
             System.arraycopy(other.neighbours, 0, neighbours, 0, STATIONS);
+            fixed = other.fixed;
             size = other.size;
         }
 
@@ -577,7 +575,7 @@ public final class GapStations {
         }
 
         boolean isFixed(int station) {
-            return has(station) && fixed[station];
+            return has(station) && (fixed >> station & 1) == 1;
         }
 
         int channelOf(int station) {
@@ -590,7 +588,7 @@ public final class GapStations {
         }
 
         int between(int a, int b) {
-            return has(a) && has(b) ? aparts[a * STATIONS + b] : 0;
+            return a >= 0 && a < size && b >= 0 && b < size ? aparts[a * STATIONS + b] : 0;
         }
 
         int whoIsAt(int x, int y) {
@@ -615,7 +613,7 @@ public final class GapStations {
             xs[station] = x;
             ys[station] = y;
             channels[station] = SILENT;
-            fixed[station] = false;
+            fixed &= ~(1 << station);
             size++;
             measure();
             return station;
@@ -656,13 +654,14 @@ public final class GapStations {
         void tune(int station, int channel) {
             if (has(station)) {
                 channels[station] = channel;
-                fixed[station] = fixed[station] && channel != SILENT;
+                fixed &= channel == SILENT ? ~(1 << station) : fixed;
             }
         }
 
         void pin(int station, boolean isFixed) {
             if (has(station)) {
-                fixed[station] = isFixed && channels[station] != SILENT;
+                boolean isIn = isFixed && channels[station] != SILENT;
+                fixed = isIn ? fixed | 1 << station : fixed & ~(1 << station);
             }
         }
 
@@ -717,14 +716,6 @@ public final class GapStations {
 
         int neighboursOf(int station) {
             return has(station) ? neighbours[station] : NONE;
-        }
-
-        int weightOf(int station) {
-            int weight = 0;
-            for (int other = 0; other < size; other++) {
-                weight += between(station, other);
-            }
-            return weight;
         }
 
         int clashesOf(int station) {
@@ -784,11 +775,7 @@ public final class GapStations {
         }
 
         int fixedBits() {
-            int bits = 0;
-            for (int s = 0; s < size; s++) {
-                bits |= fixed[s] ? 1 << s : 0;
-            }
-            return bits;
+            return fixed;
         }
 
         int rankedAt(int k) {
@@ -812,7 +799,7 @@ public final class GapStations {
         int tuneAll() {
             int waiting = 0;
             for (int s = 0; s < size; s++) {
-                if (!fixed[s]) {
+                if (!isFixed(s)) {
                     channels[s] = SILENT;
                     waiting |= 1 << s;
                 }
@@ -866,7 +853,7 @@ public final class GapStations {
         int swapChain(int station, int channel) {
             int both = channelOf(station) + channel;
             int chain = chainOf(station, both);
-            if ((chain & fixedBits()) != 0) {
+            if ((chain & fixed) != 0) {
                 return ABSENT;
             }
             int before = clashes();
@@ -908,16 +895,22 @@ public final class GapStations {
                 }
             }
         }
+    }
 
-        // ---- cliques
+    /** Tells how wide it must be: by cliques, and by trying channels station by station. */
+    private static final class Widths {
+        // While a clique is sought: who may be in one with each station, as bits.
+        private final int[] friends = new int[STATIONS];
+        // By depth and station: the channels that are left for it, as bits.
+        private final int[] left = new int[(STATIONS + 1) * STATIONS];
 
-        int largestClique(int gap) {
-            befriend(gap);
+        int largestClique(Plane plane, int gap) {
+            befriend(plane, gap);
             int best = 0;
             int most = 0;
-            for (int bits = 1; bits < 1 << size; bits++) {
+            for (int bits = 1; bits < 1 << plane.size(); bits++) {
                 int many = Integer.bitCount(bits);
-                if (many > most && areFriends(bits)) {
+                if (many > most && areFriends(bits, plane.size())) {
                     best = bits;
                     most = many;
                 }
@@ -925,16 +918,16 @@ public final class GapStations {
             return best;
         }
 
-        private void befriend(int gap) {
-            for (int s = 0; s < size; s++) {
+        private void befriend(Plane plane, int gap) {
+            for (int s = 0; s < plane.size(); s++) {
                 friends[s] = 1 << s;
-                for (int other = 0; other < size; other++) {
-                    friends[s] |= between(s, other) >= gap ? 1 << other : 0;
+                for (int other = 0; other < plane.size(); other++) {
+                    friends[s] |= plane.between(s, other) >= gap ? 1 << other : 0;
                 }
             }
         }
 
-        private boolean areFriends(int bits) {
+        private boolean areFriends(int bits, int size) {
             for (int s = 0; s < size; s++) {
                 if ((bits >> s & 1) == 1 && (bits & ~friends[s]) != 0) {
                     return false;
@@ -943,27 +936,24 @@ public final class GapStations {
             return true;
         }
 
-        int bound() {
+        int bound(Plane plane) {
+            if (plane.size() == 0) {
+                return 0;
+            }
             int greatest = 0;
-            for (int gap = 1; gap <= WIDEST_GAP && size > 0; gap++) {
-                int many = Integer.bitCount(largestClique(gap));
+            for (int gap = 1; gap <= WIDEST_GAP; gap++) {
+                int many = Integer.bitCount(largestClique(plane, gap));
                 greatest = Math.max(greatest, (many - 1) * gap + 1);
             }
             return greatest;
         }
-    }
-
-    /** Looks for the least width by trying channels station by station. */
-    private static final class Search {
-        // By depth and station: the channels that are left for it, as bits.
-        private final int[] left = new int[(STATIONS + 1) * STATIONS];
 
         int leastWidth(Plane plane) {
             if (plane.size() == 0) {
                 return 0;
             }
             // No width below the bound can do, so there is no need to try one.
-            for (int width = plane.bound(); width <= MOST_WIDTH; width++) {
+            for (int width = bound(plane); width <= MOST_WIDTH; width++) {
                 if (isWideEnough(plane, width)) {
                     return width;
                 }
@@ -983,22 +973,22 @@ public final class GapStations {
             return areSeated(this, plane, (1 << plane.size()) - 1, 0);
         }
 
-        private static boolean areSeated(Search search, Plane plane, int waiting, int depth) {
+        private static boolean areSeated(Widths widths, Plane plane, int waiting, int depth) {
             if (waiting == 0) {
                 return true;
             }
-            int next = search.tightest(plane, waiting, depth);
-            if (next < 0 || depth >= STATIONS) {
+            int next = depth < STATIONS ? widths.tightest(plane, waiting, depth) : NONE;
+            if (next < 0) {
                 return false;
             }
             int rest = waiting & ~(1 << next);
-            int tried = search.leftAt(depth, next);
+            int tried = widths.leftAt(depth, next);
             if (depth == 0 && plane.fixedBits() == 0) {
                 tried = lowerHalf(tried);
             }
             for (int channel = 0; channel < MOST_WIDTH; channel++) {
-                if ((tried >> channel & 1) == 1 && search.leaves(plane, rest, depth, next, channel)
-                        && areSeated(search, plane, rest, depth + 1)) {
+                if ((tried >> channel & 1) == 1 && widths.leaves(plane, rest, depth, next, channel)
+                        && areSeated(widths, plane, rest, depth + 1)) {
                     return true;
                 }
             }
@@ -1010,6 +1000,8 @@ public final class GapStations {
             return channels & (1 << (Integer.bitCount(channels) + 1) / 2) - 1;
         }
 
+        // Who has few channels left and takes many from those that wait comes first: so a width that is too
+        // narrow shows early.
         private int tightest(Plane plane, int waiting, int depth) {
             int best = NONE;
             int fewest = 0;
@@ -1017,8 +1009,8 @@ public final class GapStations {
             for (int s = 0; s < plane.size(); s++) {
                 if ((waiting >> s & 1) == 1) {
                     int many = Integer.bitCount(leftAt(depth, s));
-                    int weight = plane.weightOf(s);
-                    if (best < 0 || many < fewest || many == fewest && weight > most) {
+                    int weight = 1 + weightAmong(plane, waiting, s);
+                    if (best < 0 || many * most < fewest * weight) {
                         best = s;
                         fewest = many;
                         most = weight;
@@ -1026,6 +1018,14 @@ public final class GapStations {
                 }
             }
             return best;
+        }
+
+        private int weightAmong(Plane plane, int waiting, int station) {
+            int weight = 0;
+            for (int s = 0; s < plane.size(); s++) {
+                weight += (waiting >> s & 1) == 1 ? plane.between(station, s) : 0;
+            }
+            return weight;
         }
 
         /** Takes what a station's channel rules out from the others, a depth on: whether each has one left. */

@@ -170,6 +170,9 @@ final class ChannelsTest {
 
     private static void leastWidth() {
         c.promise("promise 14, bound, least, proved");
+        dueWidths(new GapStations(), 0, 0);
+        dueWidths(Checks.of("0,0"), 1, 1);
+        dueWidths(Checks.of("0,0=3!"), 1, 4);
         dueWidths(ruled("0,0;2,0;4,0", 2, 1), 2, 2);
         dueWidths(ruled("0,0;2,0;4,0", 4, 1), 3, 3);
         dueWidths(ruled("0,0;2,0;4,0", 4, 4), 9, 9);

@@ -92,6 +92,13 @@ final class PlansTest {
         for (int out : outside) {
             c.due("ends(" + out + ")", y.ends(out), -1);
         }
+
+        // 1, which has most others, comes first: 1 0 4. Were 0 first, it would be 0 1 5.
+        GapStations z = Checks.of("0,0;2,0;3,0");
+        z.rule(0, 1, 4);
+        z.rule(1, 2, 1);
+        z.plan(0, 0);
+        dueEnds(z, 5, 0);
     }
 
     private static void book() {

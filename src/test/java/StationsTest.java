@@ -239,6 +239,13 @@ final class StationsTest {
         c.dueText("channels", Checks.channels(x), "1 - 4 - - - - 9");
         c.due("told(8)", x.told(8), 129);
         c.due("nobody comes any more", Checks.read(x, "9,9"), 0);
+        GapStations y = Checks.of("1,1=1!;2,2=2!");
+        c.due("a second text", Checks.read(y, "3,3=3;4,4"), 2);
+        c.dueText("channels", Checks.channels(y), "1 2 3 -");
+        c.due("told(8), what was fixed in the text ahead", y.told(8), 3);
+        c.due("a fault", Checks.read(y, "5,5=5!;6,6=6!;7"), -25);
+        c.due("a text behind a fault", Checks.read(y, "5,5=5"), 1);
+        c.due("told(8), nothing of the faulty text", y.told(8), 3);
     }
 
     private static void of() {

@@ -82,7 +82,8 @@ final class TapesTest {
         c.due("undo(), to nothing", x.undo(), 0);
         c.due("at(0, 0)", x.at(0, 0), -5);
         Checks.read(x, "0,0=3!;9,9");
-        x.rule(0, 7, 2);
+        x.rule(0, 13, 2);
+        c.due("of(0, 6)", x.of(0, 6), 1);
         x.see(0, 3);
         x.plan(0, 0);
         x.plan(2, 1);
@@ -99,6 +100,7 @@ final class TapesTest {
         x.channel(0, 8);
         x.move(1, 8, 8);
         x.rule(0, 0, 4);
+        c.due("of(0, 6), no rule", x.of(0, 6), 0);
         x.rule(2, 3, 3);
         x.see(-1, 0);
         x.see(2, 1);
@@ -112,7 +114,8 @@ final class TapesTest {
         c.due("fits(0, 0), what is seen is as it was", x.fits(0, 0), 40);
         c.due("looked(), the book is as it was", x.looked(), 2);
         c.due("ends(0), the plan is as it was", x.ends(0), 4);
-        c.due("rule(0, 7, 2), as it was", x.rule(0, 7, 2), 702);
+        c.due("of(0, 6), as it was", x.of(0, 6), 1);
+        c.due("rule(0, 7, 2), as it was", x.rule(0, 7, 2), 1302);
         c.due("rule(2, 0, 1), as it was", x.rule(2, 0, 1), 1);
         c.due("apart(0, 1), as it was", x.apart(0, 1), 0);
         dueItems(x, 0, 6, 7);
