@@ -260,6 +260,35 @@ final class EdgesOfChannelsTest {
             told 4 = 12
             told 5 = 0
             """);
+        Script.check(c, "LEAST: one with many others in the middle", """
+            reads 7,6;4,1;4,7;1,2;1,0 = 5
+            rule 0 2 2 = 1
+            rule 1 6 1 = 1
+            told 3 = 3
+            told 4 = 3               # 0 1 2 0 2
+            told 5 = 1
+            """);
+        Script.check(c, "LEAST: one in the middle of two, by 2 and 3", """
+            reads 5,2;4,4;6,2;2,6 = 4
+            rule 0 5 2 = 1
+            rule 1 1 3 = 1
+            told 3 = 5
+            told 4 = 5               # 0 2 4 4
+            told 5 = 1
+            move 0 0 4 = 29
+            move 1 4 3 = 1
+            move 2 4 0 = 8
+            move 3 1 1 = 26
+            rule 1 3 3 = 103
+            told 4 = 5               # 4 0 4 2
+            move 0 10 11 = 149
+            move 1 9 11 = 89
+            move 2 7 9 = 90
+            move 3 1 3 = 4
+            rule 0 10 2 = 502
+            rule 1 1 3 = 303
+            told 4 = 5               # 0 4 2 0
+            """);
         Script.check(c, "LEAST: none, where BOUND is 12 at most", """
             reads 0,0;4,4;0,4;4,0;2,2 = 5
             rule 0 40 2 = 1

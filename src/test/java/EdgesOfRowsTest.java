@@ -301,6 +301,16 @@ final class EdgesOfRowsTest {
             odds 0 0 = 0
             odds 0 1 = 1
             """);
+        Script.check(c, "ODDS: by ASSIGNED, of several that with most others", """
+            reads 1,0;3,4;2,4=6!;3,0;4,2;3,2=16! = 6
+            rule 0 3 4 = 1
+            of 1 4 = 6
+            of 4 4 = 6
+            of 1 6 = 3
+            of 4 6 = 4
+            odds 0 0 = 1             # were 1 ahead of 4, then 0's 3 would leave none for 3
+            odds 0 1 = 1
+            """);
         Script.check(c, "ODDS: of the last of eight", """
             reads 0,0;1,0;2,0;3,0;4,0;5,0;6,0;7,0=19! = 8
             rule 0 1 1 = 1
@@ -542,6 +552,28 @@ final class EdgesOfRowsTest {
             plan 0 0 = 4
             ends 0 = 2
             told 8 = 2
+            """);
+        Script.check(c, "PLAN: each row does what it is told and no more", """
+            reads 9,9=5;0,0=3;1,0=3;2,2=8 = 4
+            rule 0 1 1 = 1
+            ends 1 = 1
+            plan 1 0 = 1             # no NEAR of 0
+            ends 1 = 1
+            plan -1 0 = 0
+            plan 0 3 = 1             # 3 has a CHANNEL, isn't FIXED, and NEAR is 1
+            ends 0 = 2
+            plan 0 1 = 2
+            ends 0 = 2
+            plan -1 0 = 0
+            plan 3 0 = 1             # NEAR is not 0, and 0 has a CHANNEL
+            ends 0 = 6
+            ends 1 = 1
+            plan -1 0 = 0
+            plan 2 3 = 1             # 3 isn't FIXED, and has a CHANNEL
+            ends 0 = 6
+            ends 1 = 1
+            plan 0 0 = 2
+            ends 0 = 3
             """);
         Script.check(c, "PLAN: the last of eight", """
             reads 0,0=0;1,0=0;2,0=0;3,0=0;4,0=0;5,0=0;6,0=0;7,0=9 = 8

@@ -246,6 +246,23 @@ final class EdgesOfTapesTest {
             rule 1 0 1 = 1
             rule 2 0 1 = 4001
             """);
+        Script.check(c, "promise 27: from how many others each is to be APART, and who is ASSIGNED first", """
+            reads 0,0;1,0;2,0 = 3
+            rule 0 1 1 = 1
+            image = 3
+            station 0 1 = 3
+            move 1 30 30 = 1741
+            rule 0 0 1 = 101
+            undo = 3
+            of 0 6 = 1
+            of 1 6 = 2
+            of 2 6 = 1
+            assign = 0
+            channels = 1 0 1
+            station 0 1 = 3
+            of 0 6 = 2
+            of 3 6 = 1
+            """);
         Script.check(c, "promise 27: SEEN", """
             reads 0,0;1,0 = 2
             see 0 0 = 1
@@ -385,7 +402,8 @@ final class EdgesOfTapesTest {
 
     private static void tapeSorts() {
         Script.check(c, "promise 29: sorts 0 to 4, all 0, and -1: nothing", Script.each("tape 0 % 3 = 1\nitems 0 = 0 0 0\n"
-            + "item 0 2 1 = 1\nitems 0 = 0 0 1", "0", "1", "2", "3", "4") + """
+            + "item 0 0 1 = 1\nitem 0 2 1 = 1\nitems 0 = 1 0 1\ntape 0 % 4 = 1\nitems 0 = 0 0 0 0\n"
+            + "item 0 0 1 = 1\nitem 0 3 1 = 1", "0", "1", "2", "3", "4") + """
             tape 0 -1 3 = 1
             peek 0 0 = NO
             item 0 0 1 = -11
