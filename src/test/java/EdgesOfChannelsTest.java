@@ -81,13 +81,19 @@ final class EdgesOfChannelsTest {
             exchange 1 1 = -5
             """);
         Script.check(c, "promise 13: -5 ahead of -6", """
-            reads 0,0=0;1,0=4!;2,0=7!;0,1=9 = 4
+            reads 0,0=0;1,0=4!;2,0=8;0,1=9 = 4
             rule 0 1 4 = 1
-            told 2 = 1
-            exchange 0 4 = -5
-            exchange 1 5 = -5
+            told 2 = 0
             exchange 0 1 = -6
-            channels = 0 4 7 9
+            exchange 0 4 = -5        # no more CLASHES
+            exchange 1 3 = -5        # it would be nearer 0
+            exchange 1 5 = -5        # it would be nearer 2
+            exchange 2 4 = -5
+            channels = 0 4 8 9
+            fix 1 false = 1
+            exchange 1 3 = -6
+            exchange 1 5 = -6
+            exchange 0 4 = 2
             """);
     }
 

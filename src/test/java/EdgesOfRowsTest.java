@@ -50,6 +50,21 @@ final class EdgesOfRowsTest {
             see 0 0 = -4
             count 2 = 5
             """);
+        Script.check(c, "promise 17: FULL: the five stay", TWO + """
+            see 0 0 = 1
+            see 1 0 = 2
+            see 0 0 = 3
+            see 1 0 = 4
+            see 0 0 = 5
+            fits 0 0 = 0
+            move 1 31 31 = 1861
+            fits 0 0 = 40
+            see 0 7 = -4
+            see 1 7 = -4
+            see 1 20 = -2
+            see 2 7 = -1
+            fits 0 0 = 40
+            """);
         Script.check(c, "promise 17: station -1: none then, 0, whatever the rest is",
             TWO + Script.each("see 1 5 = 1\nsee -1 % = 0\ncount 2 = 0", ANYTHING) + """
             see 0 0 = 1
@@ -392,6 +407,16 @@ final class EdgesOfRowsTest {
             plan 3 0 = -4
             count 3 = 8
             """);
+        Script.check(c, "promise 21: FULL: the eight stay", "reads 0,0=3;9,9=5 = 2\n"
+            + Script.each("plan 2 0 = %", "1", "2", "3", "4", "5", "6", "7", "8") + """
+            ends 0 = 3
+            plan 1 1 = -4
+            plan 1 0 = -4
+            plan 0 0 = -4
+            plan 2 41 = -2
+            plan 1 2 = -1
+            ends 0 = 3
+            """);
         Script.check(c, "promise 21: what -1: it is empty then, 0, whatever the rest is",
             TWO + Script.each("plan 0 0 = 1\nplan -1 % = 0\ncount 3 = 0", ANYTHING) + """
             plan -1 0 = 0
@@ -613,6 +638,15 @@ final class EdgesOfRowsTest {
             book 0 4 = -4
             book 1 -1 = -4
             count 4 = 8
+            """);
+        Script.check(c, "promise 23: FULL: the eight stay", "reads 0,0=3;9,9 = 2\n"
+            + Script.each("book 0 3 = %", "1", "2", "3", "4", "5", "6", "7", "8") + """
+            looked = -5
+            book 0 4 = -4
+            book 1 3 = -4
+            book 1 20 = -2
+            book 2 3 = -1
+            looked = -5
             """);
         Script.check(c, "promise 23: station -1: it is empty then, 0, whatever the rest is",
             TWO + Script.each("book 1 5 = 1\nbook -1 % = 0\ncount 4 = 0\nlooked = -5", ANYTHING));

@@ -582,8 +582,8 @@ final class EdgesOfTapesTest {
             shift 1 0 1 0 0 = -11
             shift 1 0 2 0 0 = -11
             """);
-        Script.check(c, "promise 32: CAST: of unlike sorts", row(0, 0, "1") + row(1, 1, "1") + row(2, 2, "1")
-            + row(3, 3, "1") + row(4, 4, "1") + """
+        Script.check(c, "promise 32: CAST: of unlike sorts", row(0, 0, "1") + row(1, 1, "2") + row(2, 2, "3")
+            + row(3, 3, "4") + row(4, 4, "0") + """
             shift 0 0 1 0 1 = -12
             shift 1 0 0 0 1 = -12
             shift 1 0 2 0 1 = -12

@@ -401,6 +401,26 @@ final class EdgesOfTermsTest {
             assign = 0
             channels = 1 1 0
             """);
+        Script.check(c, "ASSIGNED: most others at all, by whatever GAP", """
+            reads 0,0;1,0;3,0;5,0;3,2 = 5
+            rule 0 1 4 = 1
+            rule 1 2 1 = 1
+            apart 0 1 = 4
+            of 1 6 = 2
+            of 2 6 = 3
+            assign = 0
+            channels = 5 1 0 1 1     # 2 by three of 1, ahead of 1 by one of 4 and one of 1
+            """);
+        Script.check(c, "ASSIGNED: most others, also those that have a CHANNEL", """
+            reads 0,0=19!;1,0;2,0;3,0=19!;2,1=19! = 5
+            rule 0 1 1 = 1
+            of 1 4 = 19
+            of 2 4 = 19
+            of 1 6 = 2
+            of 2 6 = 3
+            assign = 0
+            channels = 19 1 0 19 19
+            """);
         Script.check(c, "ASSIGNED: of several the least number", """
             reads 0,0;1,0;20,20;20,21 = 4
             rule 0 1 3 = 1

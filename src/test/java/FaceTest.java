@@ -101,9 +101,10 @@ final class FaceTest {
         }
         c.due("-> is there", code.contains("->") ? 1 : 0, 0);
         c.due(":: is there", code.contains("::") ? 1 : 0, 0);
-        c.due("a text is there", code.contains("\"") ? 1 : 0, 0);
         Matcher library = Pattern.compile("\\b(Math|Integer|Long|System|Arrays|Character)\\.(\\w+)").matcher(code);
-        Set<String> allowed = Set.of("Math.max", "Math.min", "Integer.bitCount", "Long.MIN_VALUE", "System.arraycopy");
+        Set<String> allowed = Set.of("Math.max", "Math.min", "Math.abs", "Math.floorDiv", "Math.floorMod",
+            "Integer.compare", "Integer.bitCount", "Long.compare", "Long.bitCount", "Long.MIN_VALUE",
+            "System.arraycopy", "Arrays.copyOf", "Arrays.copyOfRange", "Arrays.fill");
         while (library.find()) {
             c.due(library.group() + " is allowed", allowed.contains(library.group()) ? 1 : 0, 1);
         }

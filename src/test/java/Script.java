@@ -70,7 +70,9 @@ final class Script {
     private void compareStates() {
         for (int k = 0; k < calls.size(); k++) {
             if (changesNothing(k)) {
-                c.dueText("line " + k + ": all behind " + calls.get(k), stateBehind(k, true), stateBehind(k, false));
+                String name = "line " + k + ": all behind " + calls.get(k);
+                c.dueText(name, stateBehind(k, true, true), stateBehind(k, false, true));
+                c.dueText(name, stateBehind(k, true, false), stateBehind(k, false, false));
             }
         }
     }
@@ -84,7 +86,7 @@ final class Script {
         return answer < 0 && !(name.equals("channel") && answer == NONE_BEFORE);
     }
 
-    private String stateBehind(int k, boolean isWithIt) {
+    private String stateBehind(int k, boolean isWithIt, boolean isAskedFirst) {
         GapStations x = new GapStations();
         Caller caller = new Caller(x);
         for (int i = 0; i < k; i++) {
@@ -93,7 +95,7 @@ final class Script {
         if (isWithIt) {
             caller.answer(calls.get(k));
         }
-        return State.of(x, caller.made);
+        return State.of(x, caller.made, isAskedFirst);
     }
 
     private static String valueOf(String word) {

@@ -14,18 +14,33 @@ final class State {
         this.x = x;
     }
 
-    /** What is learned; the calls that were made ahead must leave room for those that are made here. */
-    static String of(GapStations x, int ahead) {
+    /**
+     * What is learned; the calls that were made ahead must leave room for those that are made here. As a broken
+     * call that only asks might hide what another one spoilt, it is learned in one of two orders.
+     */
+    static String of(GapStations x, int ahead, boolean isAskedFirst) {
         State state = new State(x);
-        state.ask();
-        state.askTapes();
-        state.takeTapesApart();
-        state.takeRules();
-        state.add("read", x.read());
-        state.askStations();
-        state.add("undo", x.undo());
-        state.ask();
-        state.takeRules();
+        if (isAskedFirst) {
+            state.ask();
+            state.askTapes();
+            state.takeTapesApart();
+            state.takeRules();
+            state.add("read", x.read());
+            state.askStations();
+            state.add("undo", x.undo());
+            state.ask();
+            state.takeRules();
+        } else {
+            state.takeRules();
+            state.askStations();
+            state.add("undo", x.undo());
+            state.takeRules();
+            state.add("looked", x.looked());
+            state.add("ends", x.ends(0));
+            state.add("read", x.read());
+            state.askStations();
+            state.takeTapesApart();
+        }
         if (ahead + state.calls > Script.MOST_CALLS) {
             throw new IllegalStateException("too many calls: " + ahead + " and " + state.calls);
         }
