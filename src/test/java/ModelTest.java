@@ -2,7 +2,9 @@ import java.util.Random;
 
 /** Long runs of calls, drawn with fixed seeds, are answered as the model answers them. */
 final class ModelTest {
-    private static final int RUNS = 400, CALLS = 512, CALL_SORTS = 32;
+    private static final int RUNS = 500, CALL_SORTS = 32;
+    // What an object answers behind its 512th call is free, and one step makes fewer than 90.
+    private static final int CALLS = 512, MOST_OF_A_STEP = 90;
     private static final Checks c = new Checks();
 
     public static void main(String[] args) {
@@ -16,7 +18,7 @@ final class ModelTest {
     private final Model model = new Model();
     private final Random random;
     private final int side;
-    private String call = "";
+    private int made = 0;
 
     private ModelTest(int run) {
         random = new Random(run);
@@ -25,14 +27,15 @@ final class ModelTest {
     }
 
     private void go() {
-        for (int k = 0; k < CALLS; k++) {
+        while (made + MOST_OF_A_STEP <= CALLS) {
             int sort = random.nextInt(CALL_SORTS);
             if (sort == 6) {
-                k += feedText();
+                feedText();
             } else {
                 one(sort);
             }
         }
+        c.due("at most so many calls", made <= CALLS ? 1 : 0, 1);
     }
 
     /** A number from least to most, or now and then one beside or far off. */
@@ -62,7 +65,7 @@ final class ModelTest {
         return some(least, random.nextBoolean() ? 19 : 6);
     }
 
-    private int feedText() {
+    private void feedText() {
         StringBuilder text = new StringBuilder();
         int clauses = 1 + random.nextInt(3) + (random.nextInt(8) == 0 ? 6 : 0);
         for (int k = 0; k < clauses; k++) {
@@ -82,12 +85,11 @@ final class ModelTest {
         }
         if (random.nextInt(10) != 0) {
             due("read() of " + text, x.read(), model.read());
-            return text.length() + 1;
         }
-        return text.length();
     }
 
     private void due(String name, long got, long want) {
+        made++;
         c.due(name, got, want);
     }
 
