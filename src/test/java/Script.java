@@ -9,7 +9,8 @@ import java.util.Set;
 /**
  * A run of calls on a new object, a line each: "station 3 4 = 0" is the call and the answer that is due.
  * Other lines: "text 1,2 = 3" feeds signs (the last answer is due), "reads 1,2 = 1" feeds them and reads,
- * "channels = 0 - 3" tells all channels, "items 0 = 1 2 3" a whole tape; what stands behind # is a remark.
+ * "channels = 0 - 3" tells all channels, "items 0 = 1 2 3" a whole tape; what stands behind # is a remark. Where
+ * ? is due, what the model answers is due.
  *
  * <p>Each line is looked at four ways: the class answers what is due; so does the model; if the line only asks,
  * or is refused, an object with it and one without it are alike; and the run keeps to as many calls as the
@@ -45,8 +46,7 @@ final class Script {
     static void check(Checks c, String sentence, String lines) {
         c.promise(sentence);
         Script script = new Script(c, lines);
-        script.compareAnswers(new GapStations(), "");
-        script.compareAnswers(new Model(), " of the model");
+        script.compareAnswers();
         script.compareStates();
     }
 
@@ -59,10 +59,15 @@ final class Script {
         return all.toString();
     }
 
-    private void compareAnswers(Object target, String whose) {
-        Caller caller = new Caller(target);
+    private void compareAnswers() {
+        Caller caller = new Caller(new GapStations());
+        Caller model = new Caller(new Model());
         for (int k = 0; k < calls.size(); k++) {
-            c.dueText("line " + k + whose + ": " + calls.get(k), caller.answer(calls.get(k)), valueOf(dues.get(k)));
+            String told = model.answer(calls.get(k));
+            String due = dues.get(k).equals("?") ? told : valueOf(dues.get(k));
+            dues.set(k, due);
+            c.dueText("line " + k + ": " + calls.get(k), caller.answer(calls.get(k)), due);
+            c.dueText("line " + k + " of the model: " + calls.get(k), told, due);
         }
         c.due("so many calls: " + caller.made, caller.made <= MOST_CALLS ? 1 : 0, 1);
     }
@@ -82,7 +87,7 @@ final class Script {
         if (ASKING.contains(name) || NEVER_REFUSED.contains(name)) {
             return ASKING.contains(name);
         }
-        int answer = Integer.parseInt(dues.get(k));
+        long answer = Long.parseLong(dues.get(k));
         return answer < 0 && !(name.equals("channel") && answer == NONE_BEFORE);
     }
 
