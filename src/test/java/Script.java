@@ -50,6 +50,13 @@ final class Script {
         script.compareStates();
     }
 
+    /** Looks only at the answers of a run, which makes as many calls as it is told. */
+    static void answers(Checks c, String sentence, String lines, int calls) {
+        c.promise(sentence);
+        Script script = new Script(c, lines);
+        c.due("so many calls", script.compareAnswers(), calls);
+    }
+
     /** A line for each of some words, which stand where the line has a %. */
     static String each(String line, String... words) {
         StringBuilder all = new StringBuilder();
@@ -59,7 +66,7 @@ final class Script {
         return all.toString();
     }
 
-    private void compareAnswers() {
+    private int compareAnswers() {
         Caller caller = new Caller(new GapStations());
         Caller model = new Caller(new Model());
         for (int k = 0; k < calls.size(); k++) {
@@ -70,6 +77,7 @@ final class Script {
             c.dueText("line " + k + " of the model: " + calls.get(k), told, due);
         }
         c.due("so many calls: " + caller.made, caller.made <= MOST_CALLS ? 1 : 0, 1);
+        return caller.made;
     }
 
     private void compareStates() {
