@@ -16,6 +16,8 @@ final class Document {
     private final Checks c;
     private final String text;
     private int place = 0;
+    // Pieces such as "NONE" are told apart by it.
+    private String promise = "";
 
     /** The document from some words on to some others, which do not belong to it any more ("": its end). */
     Document(Checks c, String from, String until) {
@@ -45,7 +47,7 @@ final class Document {
     void says(String piece, String... runs) {
         passes(piece);
         for (String run : runs) {
-            Script.check(c, piece, run);
+            Script.check(c, promise + piece, run);
         }
     }
 
@@ -56,6 +58,7 @@ final class Document {
         boolean isNext = at >= 0 && isBetween(text.substring(place, at));
         c.dueText("what stands next", isNext ? piece : rest(), piece);
         place = at >= 0 ? at + piece.length() : place;
+        promise = piece.matches("Promise \\d+: .*") ? piece.substring(0, piece.indexOf(':')) + ": " : promise;
     }
 
     void end() {

@@ -471,6 +471,8 @@ final class DocumentTermsTest {
             reads 3,3=! = -14
             reads 3,3=4!! = -16
             told 0 = 2
+            reads 3,3=4 = 1
+            told 8 = 1
             """);
         doc.says("No blanks", "reads  1,1 = -10\nreads 1 ,1 = -11\nreads 1, 1 = -12\nreads 1,1 ;2,2 = -13\n"
             + "reads 1,1; 2,2 = -14\nreads 1,1 =3 = -13\nreads 1,1= 3 = -14\nreads 1,1=3 ! = -15\n");
@@ -672,6 +674,13 @@ final class DocumentTermsTest {
             fits 0 0 = 0
             channels = - - -
             """, """
+            reads 0,0;4,3 = 2     # 0 0, and 0 1 from 5 on
+            see 1 1 = 1
+            fits 0 0 = 36
+            see -1 0 = 0
+            see 1 0 = 1
+            fits 0 0 = 4
+            """, """
             reads 0,0;3,0;6,0 = 3     # by RULE 1 it is 2 0 2 already
             rule 1 3 2 = 1
             rule 0 9 1 = 1
@@ -721,7 +730,7 @@ final class DocumentTermsTest {
             channel 2 1 = -5
             mean 0 = 4
             mean 1 = 1
-            """);
+            """, "reads 0,0;1,0=19;2,0 = 3\nmean 0 = 19\nmean 1 = 1\n");
         doc.says("a fraction in lowest terms", """
             reads 0,0=2;1,0=4;2,0=0;3,0=0 = 4
             mean 0 = 3
@@ -825,37 +834,48 @@ final class DocumentTermsTest {
 
     private static void theImage() {
         doc.says("THE IMAGE: STATIONS, RULES, SEEN, the PLAN, the BOOK", """
-            reads 0,0=5!;2,0;4,0=6 = 3
+            reads 0,0=5!;2,0=9;4,0=6;20,0 = 4
             rule 0 2 2 = 1
             rule 2 4 3 = 1
             see 1 8 = 1
             plan 1 2 = 1
-            book 0 4 = 1
-            image = 3
+            book 0 5 = 1
+            book 3 -1 = 2
+            book 1 8 = 3
+            image = 4
             channel 0 -1 = 5
-            channel 1 3 = -5
+            channel 1 3 = 9
             fix 1 true = 0
             move 2 9 9 = 106
+            move 3 4 0 = 256
             reads 30,30=1! = 1
             rule 0 0 1 = 202
             rule 1 5 1 = 1
             rule 2 0 4 = 403
+            see -1 0 = 0
+            see 0 0 = 1
             see 0 0 = 2
             plan -1 0 = 0
             plan 0 0 = 1
-            book 3 1 = 2
-            book 3 2 = 3
-            undo = 3
-            channels = 5 - 6
+            plan 0 0 = 2
+            book -1 0 = 0
+            book 3 1 = 1
+            undo = 4
+            channels = 5 9 6 -
             told 8 = 1
             at 4 0 = 2
             at 30 30 = -5
+            apart 0 1 = 3
+            apart 2 3 = 0
+            of 1 6 = 2
+            count 1 = 2
             count 2 = 1
             count 3 = 1
-            count 4 = 1
-            fits 1 0 = 0     # 1 is 0, by no NEAR it is 8
-            ends 0 = 1
-            looked = 0
+            count 4 = 3
+            fits 1 0 = 2     # 1 is 0, but for 16 and 17, by which 2 has most others
+            fits 1 1 = 16
+            ends 0 = 5
+            looked = 2
             rule 0 0 1 = 202
             rule 1 0 1 = 1
             rule 2 0 1 = 403
